@@ -756,8 +756,8 @@ public final class BothKnow {
      * Tellings and days never lessen an age, so neither do they lessen that number.
      */
     private static final class House {
-        private static final int CROWDS = (MOST_FACTS + 1) * (MOST_FACTS + 1);
-        private static final int CASES = TWINS * MOST_FACTS * CROWDS;
+        private static final int CROWDS = MOST_FACTS + 1;
+        private static final int CASES = TWINS * CROWDS * CROWDS * MOST_FACTS;
 
         int facts;
         int doings;
@@ -837,20 +837,19 @@ public final class BothKnow {
             return 1 << 4 * facts;
         }
 
-        void setComing(int bond, int k, int coming) {
-            int place = bond * CASES + k;
+        /** Where what both laws say of a twin's fact 0 is kept; the other facts are behind it. */
+        static int caseOf(int bond, int twin, int known, int theirs) {
+            return bond * CASES + ((twin * CROWDS + known) * CROWDS + theirs) * MOST_FACTS;
+        }
+
+        int caseAt(int ages, int bond, int twin) {
+            return caseOf(bond, twin, knownTo(ages, twin), knownTo(ages, 1 - twin));
+        }
+
+        void setComing(int place, int coming) {
             if (place >= 0 && place < comings.length) {
                 comings[place] = coming;
             }
-        }
-
-        int comingOf(int bond, int k) {
-            int place = bond * CASES + k;
-            return place >= 0 && place < comings.length ? comings[place] : NONE;
-        }
-
-        static int caseOf(int twin, int fact, int known, int theirs) {
-            return (twin * MOST_FACTS + fact) * CROWDS + known * (MOST_FACTS + 1) + theirs;
         }
 
         /** Which doings are done is kept for each way in which the ages of one twin can be. */
@@ -916,8 +915,13 @@ public final class BothKnow {
 
         /** The ages behind a telling, or NONE where the law may forbids it. */
         int afterTelling(int ages, int bond, int twin, int fact) {
-            int other = 1 - twin;
-            int coming = comingOf(bond, caseOf(twin, fact, knownTo(ages, twin), knownTo(ages, other)));
+            return afterCase(ages, caseAt(ages, bond, twin), twin, fact);
+        }
+
+        /** The same, for those who tell several facts at the same ages. */
+        int afterCase(int ages, int place, int twin, int fact) {
+            int k = place + fact;
+            int coming = k >= 0 && k < comings.length ? comings[k] : NONE;
             if (coming < 0) {
                 return NONE;
             }
@@ -925,8 +929,8 @@ public final class BothKnow {
             if (ageIn(ages, twin, fact) == 0) {
                 next |= 1 << 4 * fact + 2 * twin;
             }
-            int more = coming - ageIn(ages, other, fact);
-            return more > 0 ? next + (more << 4 * fact + 2 * other) : next;
+            int more = coming - ageIn(ages, 1 - twin, fact);
+            return more > 0 ? next + (more << 4 * fact + 2 * (1 - twin)) : next;
         }
 
         static int afterDay(int ages) {
@@ -1005,14 +1009,14 @@ public final class BothKnow {
                         for (int theirs = 0; theirs <= house.facts; theirs++) {
                             named[KNOWN] = known;
                             named[THEIRS] = theirs;
-                            weighBonds(house, House.caseOf(twin, fact, known, theirs));
+                            weighBonds(house);
                         }
                     }
                 }
             }
         }
 
-        private void weighBonds(House house, int k) {
+        private void weighBonds(House house) {
             boolean mayBe = mayTo == mayFrom || value(mayFrom, mayTo) != 0;
             int coming = mayBe ? COMING_WITHOUT_LAW : NONE;
             for (int bond = 0; bond < BONDS; bond++) {
@@ -1020,7 +1024,8 @@ public final class BothKnow {
                     named[BOND] = bond;
                     coming = Math.max(0, Math.min(OLDEST, value(comesFrom, comesTo)));
                 }
-                house.setComing(bond, k, coming);
+                int place = House.caseOf(bond, named[TWIN], named[KNOWN], named[THEIRS]);
+                house.setComing(place + named[FACT], coming);
             }
         }
 
@@ -1754,9 +1759,10 @@ public final class BothKnow {
         private void open(int place) {
             int ages = agesOf(place);
             for (int twin = 0; twin < TWINS; twin++) {
+                int cases = house.caseAt(ages, bond, twin);
                 for (int fact = 0; fact < house.facts && twin != skippedTwin; fact++) {
                     if (fact != skippedFact) {
-                        add(place, house.afterTelling(ages, bond, twin, fact));
+                        add(place, house.afterCase(ages, cases, twin, fact));
                     }
                 }
             }
@@ -1857,8 +1863,9 @@ public final class BothKnow {
 
         private void openTellings(int ages) {
             for (int twin = 0; twin < TWINS; twin++) {
+                int cases = house.caseAt(ages, bond, twin);
                 for (int fact = 0; fact < house.facts; fact++) {
-                    addWithDays(house.afterTelling(ages, bond, twin, fact));
+                    addWithDays(house.afterCase(ages, cases, twin, fact));
                 }
             }
         }
@@ -1916,8 +1923,9 @@ public final class BothKnow {
 
         private void spread(int ages, long here) {
             for (int twin = 0; twin < TWINS; twin++) {
+                int cases = house.caseAt(ages, bond, twin);
                 for (int fact = 0; fact < house.facts; fact++) {
-                    add(house.afterTelling(ages, bond, twin, fact), here);
+                    add(house.afterCase(ages, cases, twin, fact), here);
                 }
             }
             add(House.afterDay(ages), here);
