@@ -881,7 +881,9 @@ public final class BothKnow {
 
         static int knownTo(int ages, int twin) {
             int own = ages >> 2 * twin & 0x3333;
-            return Integer.bitCount((own | own >> 1) & 0x1111);
+            int known = (own | own >> 1) & 0x1111;
+            // Four bits a fact, of which the lowest alone can be set: the product adds them up there.
+            return known * 0x1111 >> 12 & 7;
         }
 
         int knownBits(int ages, int twin) {
@@ -1142,6 +1144,7 @@ public final class BothKnow {
             "house fact doing bond knows comes may kind needs age but if then else end twin known theirs or and not ";
         private static final String SIGNS = ";:+-*()[]=<>";
         private static final int DEEPEST = 6;
+        private static final int MOST_DIGITS = 3;
 
         int fault;
         int place = NONE;
@@ -1212,10 +1215,6 @@ public final class BothKnow {
             return taken;
         }
 
-        private int takeFact() {
-            return takeNumber(0, draft.facts - 1);
-        }
-
         private void advance() {
             int k = behind;
             while (k < length && (text[k] == 10 || text[k] == 32)) {
@@ -1223,69 +1222,53 @@ public final class BothKnow {
             }
             at = k;
             behind = k;
-            if (k >= length) {
-                token = END;
-            } else if (isLetter(text[k])) {
-                readWord();
-            } else if (isDigit(text[k])) {
-                readDigits();
-            } else if (SIGNS.indexOf((char) (text[k] & 255)) >= 0) {
-                token = text[k];
-                behind = k + 1;
-            } else {
+            token = END;
+            if (k < length) {
+                int sign = text[k];
+                if (sign >= 'a' && sign <= 'z') {
+                    readWord();
+                } else if (sign >= '0' && sign <= '9') {
+                    readDigits();
+                } else {
+                    behind = k + 1;
+                    token = SIGNS.indexOf((char) (sign & 255)) >= 0 ? sign : BAD;
+                }
+            }
+            if (token == BAD) {
                 fail(NO_TOKEN);
             }
         }
 
-        private static boolean isLetter(int c) {
-            return c >= 'a' && c <= 'z';
-        }
-
-        private static boolean isDigit(int c) {
-            return c >= '0' && c <= '9';
-        }
-
         private void readWord() {
-            while (behind < length && isLetter(text[behind])) {
+            while (behind < length && text[behind] >= 'a' && text[behind] <= 'z') {
                 behind++;
             }
             token = OTHER_WORD;
             int word = HOUSE;
-            int from = 0;
+            int place = at;
+            boolean same = true;
             for (int k = 0; k < WORDS.length() && token == OTHER_WORD; k++) {
-                if (WORDS.charAt(k) == ' ') {
-                    if (isWord(from, k)) {
-                        token = word;
-                    }
+                int letter = WORDS.charAt(k);
+                if (letter != ' ') {
+                    same = same && place < behind && text[place] == letter;
+                    place++;
+                } else if (same && place == behind) {
+                    token = word;
+                } else {
                     word++;
-                    from = k + 1;
+                    place = at;
+                    same = true;
                 }
             }
-        }
-
-        private boolean isWord(int from, int to) {
-            if (to - from != behind - at) {
-                return false;
-            }
-            for (int k = from; k < to; k++) {
-                if (text[at + k - from] != WORDS.charAt(k)) {
-                    return false;
-                }
-            }
-            return true;
         }
 
         private void readDigits() {
             number = 0;
-            while (behind < length && isDigit(text[behind])) {
-                if (behind - at >= 3) {
-                    fail(NO_TOKEN);
-                    return;
-                }
+            while (behind < length && text[behind] >= '0' && text[behind] <= '9') {
                 number = 10 * number + text[behind] - '0';
                 behind++;
             }
-            token = NUMBER;
+            token = behind - at > MOST_DIGITS ? BAD : NUMBER;
         }
 
         private void line() {
@@ -1340,12 +1323,12 @@ public final class BothKnow {
             for (int k = 0; k < length && (token == NEEDS || token == BUT); k++) {
                 if (token == NEEDS) {
                     advance();
-                    int fact = takeFact();
+                    int fact = takeNumber(0, draft.facts - 1);
                     take(AGE);
                     draft.setNeed(d, fact, takeNumber(1, OLDEST));
                 } else {
                     advance();
-                    draft.setBut(d, takeFact());
+                    draft.setBut(d, takeNumber(0, draft.facts - 1));
                 }
             }
         }
@@ -1353,7 +1336,7 @@ public final class BothKnow {
         private void knowsLine() {
             advance();
             int twin = takeNumber(0, TWINS - 1);
-            int fact = takeFact();
+            int fact = takeNumber(0, draft.facts - 1);
             int age = takeNumber(0, OLDEST);
             if (fault == 0) {
                 draft.setStart(twin, fact, age);
@@ -1394,55 +1377,45 @@ public final class BothKnow {
         }
 
         private void atom(int depth) {
-            switch (token) {
-                case '(':
-                    if (opens(depth)) {
-                        sum(depth + 1);
-                        take(')');
-                    }
-                    break;
-                case IF:
-                    if (opens(depth)) {
-                        choice(depth + 1);
-                    }
-                    break;
-                case NUMBER:
-                    named(Laws.NUMBER + number);
-                    break;
-                case TWIN:
-                    named(Laws.TWIN);
-                    break;
-                case FACT:
-                    named(Laws.FACT);
-                    break;
-                case KIND:
-                    named(Laws.KIND);
-                    break;
-                case KNOWN:
-                    named(Laws.KNOWN);
-                    break;
-                case THEIRS:
-                    named(Laws.THEIRS);
-                    break;
-                case BOND:
-                    bondNamed();
-                    break;
-                default:
+            if (token == '(') {
+                if (opens(depth)) {
+                    sum(depth + 1);
+                    take(')');
+                }
+            } else if (token == IF) {
+                if (opens(depth)) {
+                    choice(depth + 1);
+                }
+            } else {
+                int step = stepOfToken();
+                if (step < 0) {
                     fail(NOT_HERE);
-                    break;
+                } else {
+                    laws.add(step);
+                    advance();
+                }
             }
         }
 
-        private void named(int step) {
-            laws.add(step);
-            advance();
-        }
-
-        private void bondNamed() {
-            if (inMay) {
-                fail(NOT_HERE);
-            } else {
-                named(Laws.BOND);
+        /** What a number or a name is in a law, or NONE where the token is neither. */
+        private int stepOfToken() {
+            switch (token) {
+                case NUMBER:
+                    return Laws.NUMBER + number;
+                case TWIN:
+                    return Laws.TWIN;
+                case FACT:
+                    return Laws.FACT;
+                case KIND:
+                    return Laws.KIND;
+                case KNOWN:
+                    return Laws.KNOWN;
+                case THEIRS:
+                    return Laws.THEIRS;
+                case BOND:
+                    return inMay ? NONE : Laws.BOND;
+                default:
+                    return NONE;
             }
         }
 

@@ -104,6 +104,15 @@ public final class DeedsTest {
         x.bond(5);
         DUE.same("one anew", x.undo(1), 0);
         DUE.same("bond", x.count(4), 1);
+        BothKnow y = Due.told("house;fact;fact;fact;fact;comes:0;");
+        for (int k = 0; k < 13; k++) {
+            y.tell(k < 8 ? k % 2 : 0, k < 8 ? k / 2 : 0);
+        }
+        DUE.same("known to 0", y.count(2), 4);
+        DUE.same("undo(10)", y.undo(10), 0);
+        DUE.same("three tellings stay: 0 knows two", y.count(2), 2);
+        DUE.same("1 knows one", y.count(3), 1);
+        DUE.same("age(0, 1)", y.age(0, 1), 1);
     }
 
     private static void whatCanBeUndone() {

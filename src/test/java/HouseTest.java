@@ -123,6 +123,16 @@ public final class HouseTest {
         fault("house;" + (char) 0, 1, 6);
         fault("house,", 1, 5);
         fault("housefact;", 2, 0);
+        fault("house;a;", 2, 6);
+        fault("house;z;", 2, 6);
+        fault("house;bondz 1;", 2, 6);
+        fault("house;zbond 1;", 2, 6);
+        fault("house;bon 1;", 2, 6);
+        fault("house;bonds 1;", 2, 6);
+        fault("house;`;", 1, 6);
+        fault("house;{;", 1, 6);
+        fault("house;/;", 1, 6);
+        fault("house;bond 99999999999999999999;", 1, 11);
         fault("ho use;", 2, 0);
         fault("house;bond -1;", 2, 11);
         fault("house;bond x;?", 2, 11);
