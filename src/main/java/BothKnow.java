@@ -1245,18 +1245,18 @@ public final class BothKnow {
             }
             token = OTHER_WORD;
             int word = HOUSE;
-            int place = at;
+            int next = at;
             boolean same = true;
             for (int k = 0; k < WORDS.length() && token == OTHER_WORD; k++) {
                 int letter = WORDS.charAt(k);
                 if (letter != ' ') {
-                    same = same && place < behind && text[place] == letter;
-                    place++;
-                } else if (same && place == behind) {
+                    same = same && next < behind && text[next] == letter;
+                    next++;
+                } else if (same && next == behind) {
                     token = word;
                 } else {
                     word++;
-                    place = at;
+                    next = at;
                     same = true;
                 }
             }
@@ -1743,9 +1743,8 @@ public final class BothKnow {
         }
 
         private boolean finds(int place) {
-            while (found <= place && opened < found) {
+            for (; opened < places.length && opened < found && found <= place; opened++) {
                 open(opened);
-                opened++;
             }
             return place < found;
         }

@@ -2,21 +2,30 @@
 final class Due {
     private int asked;
     private int wrong;
+    private String sentence = "";
+
+    /** The document's sentence that is asked about from here on: it is told with what is wrong. */
+    void says(String words) {
+        sentence = words;
+    }
 
     void same(String what, long got, long want) {
         asked++;
         if (got != want) {
-            wrong++;
-            System.out.println(what + " answered " + got + ", due is " + want);
+            tellWrong(what + " answered " + got + ", due is " + want);
         }
     }
 
     void holds(String what, boolean true_) {
         asked++;
         if (!true_) {
-            wrong++;
-            System.out.println(what + " doesn't hold");
+            tellWrong(what + " doesn't hold");
         }
+    }
+
+    private void tellWrong(String what) {
+        wrong++;
+        System.out.println((sentence.isEmpty() ? "" : "\"" + sentence + "\": ") + what);
     }
 
     void end() {

@@ -31,6 +31,7 @@ public final class RulesTest {
         nestedClasses();
         words();
         room();
+        roomOfAllCalls();
         wildArguments();
         DUE.end();
     }
@@ -125,6 +126,21 @@ public final class RulesTest {
         new BothKnow();
         made = allocated() - before;
         DUE.holds("a new object is small, not " + made + " bytes", made < 40000);
+    }
+
+    /** One object's 512 calls, of houses as great as can be: what they make in all. */
+    private static void roomOfAllCalls() {
+        long before = allocated();
+        BothKnow x = new BothKnow();
+        for (int k = 0; k < 5; k++) {
+            Due.read(x, "house;fact;fact;fact;fact;doing needs 0 age 3;doing needs 3 age 3;comes:" + k % 2 + ";");
+            x.image(k % 2);
+            Due.tray(x, 0, 0, 1, 2, 3);
+            dearCalls(x);
+        }
+        long made = allocated() - before;
+        // Some 270,000 numbers of 4 or 8 bytes; the texts and words of the test itself are small.
+        DUE.holds("512 calls make little, not " + made + " bytes", made < 2000000);
     }
 
     private static void dearCalls(BothKnow x) {
