@@ -35,6 +35,7 @@ public final class DeedEdgesTest {
         timesOfAYear();
         drawsOfAYear();
         yearsThatDoNothing();
+        allCallsOfAnObject();
         DUE.end();
     }
 
@@ -449,7 +450,12 @@ public final class DeedEdgesTest {
 
     private static void onlyWhatIsDone() {
         DUE.says("judged as if done; a call changes what it tells, and nothing else");
-        for (int way = 0; way < 5; way++) {
+        // The first seed by which a year of one time changes the bond.
+        int seed = 0;
+        for (draw = 0; nextDeed() < 200; draw = seed) {
+            seed++;
+        }
+        for (int way = 0; way < 6; way++) {
             BothKnow x = Due.told(ALL_AGES + "comes:0;");
             int ages = agesOf(x);
             Due.tray(x, 0, 0, 10, -1, -1, 203);
@@ -461,10 +467,12 @@ public final class DeedEdgesTest {
                 case 1 -> x.tell(0, 3);
                 case 2 -> x.perform(2);
                 case 3 -> x.forget(0, 0);
+                case 4 -> x.year(seed, 1);
                 default -> x.undo(1);
             }
             DUE.same("ages behind " + way, agesOf(x), ages);
-            DUE.same("bond behind " + way, x.count(4), way == 0 ? 5 : 0);
+            draw = seed;
+            DUE.same("bond behind " + way, x.count(4), way == 0 ? 5 : way == 4 ? nextDeed() - 200 : 0);
         }
     }
 
@@ -704,6 +712,11 @@ public final class DeedEdgesTest {
         }
         BothKnow x = Due.told("house;fact;doing;");
         x.numbers(3, 0, 0);
+        Due.tray(x, 1, 77);
+        DUE.same("one that can't be", x.judge(1, 1), 1);
+        DUE.same("none behind it", x.judge(3, 1), 0);
+        DUE.same("one that can't be", x.judge(1, 0), 0);
+        DUE.same("none behind it", x.judge(3, 0), -1);
         int[] empty = {-1, 0, 1, 1};
         for (int what = -2; what <= 6; what++) {
             boolean is = what >= 0 && what <= 3;
@@ -806,6 +819,32 @@ public final class DeedEdgesTest {
             DUE.same("age behind " + name, x.age(k / 4, k % 4), y.age(k / 4, k % 4));
         }
         DUE.same("bond behind " + name, x.count(4), y.count(4));
+    }
+
+    private static void allCallsOfAnObject() {
+        DUE.says("An object is used for at most 512 calls after it has been made");
+        String text = "house;fact;fact;fact;fact;doing needs 3 age 3;comes:bond;bond 1;" + " ".repeat(19);
+        BothKnow x = new BothKnow();
+        int calls = 0;
+        while (calls < 500) {
+            // Four feeds, a reading, five others: ten calls a round.
+            DUE.same("house", Due.read(x, text.substring(0, 80)), 8);
+            DUE.same("year", x.year(calls, 1) < 0 ? 1 : 0, 0);
+            DUE.same("image", x.image(calls / 10 % 2), 0);
+            DUE.same("restore", x.restore(calls / 10 % 2), 0);
+            DUE.same("bond", x.bond(3) < 0 ? 1 : 0, 0);
+            DUE.same("forces", x.forces(0, 0) < -1 ? 1 : 0, 0);
+            calls += 10;
+        }
+        Due.read(x, text.substring(0, 80));
+        DUE.same("tell", x.tell(0, 3), 1);
+        DUE.same("days", x.days(2), 2);
+        DUE.same("undo", x.undo(2), 0);
+        DUE.same("soonest", x.soonest(1, 1), 3);
+        // Each fact is as old for both: four ways each.
+        DUE.same("stands", x.stands(), 256);
+        DUE.same("rows", x.rows(0, 0, 12), 282429536481L);
+        DUE.same("the 512th", x.count(8), 8);
     }
 
     private static void yearsThatDoNothing() {

@@ -165,6 +165,8 @@ public final class GuessEdgesTest {
         // Of 001, 010, 011, 100, 101, 110 the first.
         DUE.same("rows", x.told(0, 1, 1), 6);
         DUE.same("001", x.whom(0, 1, 1, 0) * 100 + x.whom(0, 1, 1, 1) * 10 + x.whom(0, 1, 1, 2), 1);
+        DUE.same("none surely 1", x.surely(0, 1, 1, 1), 0);
+        DUE.same("none surely 0", x.surely(0, 1, 1, 0), 0);
         BothKnow y = Due.told("house;fact;doing needs 0 age 3;comes:0;");
         Due.tray(y, 0, 0, 0, 0);
         // Both are old by then: told at the first or the second: 010, 011, 100, 101.
@@ -407,6 +409,7 @@ public final class GuessEdgesTest {
     private static final String SIX_TURNS = "house;fact;fact;fact;doing needs 0 age 3 needs 1 age 1 needs 2 age 1;knows 0 0 1;comes:0;may:fact=known;";
 
     private static void forced(BothKnow x, int twin, int d, int turns, int best) {
+        DUE.same("best(" + twin + ", " + d + ") at first", x.best(twin, d), best);
         DUE.same("forces(" + twin + ", " + d + ")", x.forces(twin, d), turns);
         DUE.same("best(" + twin + ", " + d + ")", x.best(twin, d), best);
     }

@@ -32,6 +32,7 @@ public final class RowEdgesTest {
         withoutFacts();
         nothingElseIsDone();
         askedOfEachHouseAnew();
+        askedOfImages();
         askedByTurns();
         DUE.end();
     }
@@ -131,6 +132,14 @@ public final class RowEdgesTest {
         DUE.same("alone(0, 0)", x.alone(0, 0), -1);
         DUE.same("aloneWay(0, 0, 0)", x.aloneWay(0, 0, 0), -1);
         DUE.same("alone(1, 1)", x.alone(1, 1), -1);
+        BothKnow y = Due.told("house;fact;doing but 0;knows 0 0 1;");
+        DUE.same("what is known stays known", y.soonest(1, 0), -1);
+        DUE.same("way", y.way(1, 0, 0), -1);
+        DUE.same("rows", y.rows(1, 0, 3), 0);
+        DUE.same("tellings", y.tellings(1, 0), -1);
+        DUE.same("can", y.can(0), 0);
+        DUE.same("alone(0, 0)", y.alone(0, 0), -1);
+        DUE.same("the other one", y.alone(1, 0), 0);
     }
 
     private static void placesOfAWay() {
@@ -523,6 +532,28 @@ public final class RowEdgesTest {
             DUE.same("needed behind " + between, x.needed(1, 0), 1);
             DUE.same("of none behind " + between, x.needed(0, 1), 0);
             DUE.same("stands behind " + between, x.stands(), 4);
+        }
+    }
+
+    private static void askedOfImages() {
+        DUE.says("All that is in an IMAGE is as it was: THE HOUSE, and what is asked of it");
+        BothKnow x = Due.told("house;fact;doing needs 0 age 1;comes:0;");
+        x.image(0);
+        Due.read(x, "house;fact;doing needs 0 age 3;comes:3;may:twin=1;");
+        x.image(1);
+        for (int k = 0; k < 4; k++) {
+            boolean first = k % 2 == 0;
+            x.restore(k % 2);
+            DUE.same("soonest", x.soonest(1, 0), 1);
+            DUE.same("way", x.way(1, 0, 0), first ? 0 : 10);
+            DUE.same("stands", x.stands(), first ? 16 : 4);
+            DUE.same("overhears", x.overhears(0), first ? 0 : 1);
+            DUE.same("needed", x.needed(1, 1), 1);
+            DUE.same("tellings", x.tellings(1, 1), first ? 2 : 1);
+            DUE.same("rows", x.rows(1, 0, 1), 1);
+            DUE.same("forces", x.forces(0, 0), 1);
+            DUE.same("best", x.best(0, 0), first ? 0 : 10);
+            DUE.same("chance", x.chance(0, 0, 1, 1), 2);
         }
     }
 
